@@ -1,10 +1,16 @@
+import java.util.function.ToIntFunction;
+
 /** Promise 13. */
 public final class OrderAndLimitsTest {
     private static final Check check = new Check();
 
     public static void main(String[] args) {
         badBeforeNone();
-        refusedCallsChangeNothing();
+        for (int time = 0; time <= 10; time++) {
+            refusedCallsChangeNothing(time);
+        }
+        check.refused("emit when full", OrderAndLimitsTest::fullAtItsEnd,
+            d -> d.emit(TraceDebugger.SET, 0, 1, 0), TraceDebugger.FULL);
         check.end();
     }
 
@@ -25,21 +31,27 @@ public final class OrderAndLimitsTest {
         check.due("time() after it", end.time(), 0);
     }
 
-    private static void refusedCallsChangeNothing() {
-        for (int t = 0; t <= 10; t++) {
-            int time = t;
-            check.refused("calls that are refused at time " + t, () -> Programs.countdownAt(time),
-                OrderAndLimitsTest::callsThatAreRefused, -14);
-        }
-        check.refused("emit when full", OrderAndLimitsTest::fullAtItsEnd,
-            d -> d.emit(TraceDebugger.SET, 0, 1, 0), TraceDebugger.FULL);
+    private static void refusedCallsChangeNothing(int time) {
+        refused(time, "emit(9, 0, 0, 0)", d -> d.emit(9, 0, 0, 0), TraceDebugger.BAD);
+        refused(time, "emit(ADD, 0, 0, 6)", d -> d.emit(TraceDebugger.ADD, 0, 0, 6), TraceDebugger.BAD);
+        refused(time, "emit(GOTO, 20, 0, 0)", d -> d.emit(TraceDebugger.GOTO, 20, 0, 0), TraceDebugger.BAD);
+        refused(time, "goTo(-1)", d -> d.goTo(-1), TraceDebugger.BAD);
+        refused(time, "goTo(11)", d -> d.goTo(11), TraceDebugger.BAD);
+        refused(time, "variable(6)", d -> d.variable(6), 0);
+        refused(time, "cell(8)", d -> d.cell(8), 0);
+        refused(time, "lastWrite(2, 0)", d -> d.lastWrite(2, 0), TraceDebugger.BAD);
+        refused(time, "lastWrite(0, 6)", d -> d.lastWrite(0, 6), TraceDebugger.BAD);
+        refused(time, "lastWrite(1, 8)", d -> d.lastWrite(1, 8), TraceDebugger.BAD);
+        refused(time, "runTo(20)", d -> d.runTo(20), TraceDebugger.BAD);
+        refused(time, "runTo(19)", d -> d.runTo(19), TraceDebugger.NONE);
+        refused(time, "backTo(20)", d -> d.backTo(20), TraceDebugger.BAD);
+        refused(time, "backTo(19)", d -> d.backTo(19), TraceDebugger.NONE);
+        refused(time, "backBeforeWrite(6)", d -> d.backBeforeWrite(6), TraceDebugger.BAD);
+        refused(time, "backBeforeWrite(3)", d -> d.backBeforeWrite(3), TraceDebugger.NONE);
     }
 
-    private static int callsThatAreRefused(TraceDebugger d) {
-        return d.emit(9, 0, 0, 0) + d.emit(TraceDebugger.ADD, 0, 0, 6) + d.emit(TraceDebugger.GOTO, 20, 0, 0)
-            + d.goTo(-1) + d.goTo(11) + d.lastWrite(2, 0) + d.lastWrite(0, 6) + d.lastWrite(1, 8)
-            + d.runTo(20) + d.runTo(19) / 3 + d.backTo(20) + d.backTo(19) / 3
-            + d.backBeforeWrite(6) + d.backBeforeWrite(3) / 3;
+    private static void refused(int time, String call, ToIntFunction<TraceDebugger> run, int want) {
+        check.refused("at time " + time + ", " + call, () -> Programs.countdownAt(time), run, want);
     }
 
     private static TraceDebugger fullAtItsEnd() {
