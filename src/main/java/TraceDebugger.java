@@ -33,9 +33,9 @@ public final class TraceDebugger {
     private final int[] yOf = new int[MAX_INSTRUCTIONS];
     private final int[] zOf = new int[MAX_INSTRUCTIONS];
     private int instructionCount = 0;
-    private int inputValue = 0;
 
     // The whole execution is kept, so that going back is no more than choosing a time.
+    // Steps write from time 1 on: at time 0 all stays 0, as it was made, but the input.
     private final int[] valueAt = new int[ALL_PLACES];
     private final int[] nextAt = new int[TIMES];
     private final int[] writtenBy = new int[TIMES];
@@ -43,7 +43,6 @@ public final class TraceDebugger {
     private int now = 0;
 
     public TraceDebugger() {
-        execute();
     }
 
     public int emit(int op, int x, int y, int z) {
@@ -63,7 +62,7 @@ public final class TraceDebugger {
     }
 
     public int input(int value) {
-        inputValue = value;
+        valueAt[INPUT_VARIABLE] = value;
         execute();
         return stepCount;
     }
@@ -185,7 +184,8 @@ public final class TraceDebugger {
     }
 
     private void execute() {
-        begin();
+        now = 0;
+        stepCount = 0;
         for (int step = 1; step <= MAX_STEPS; step++) {
             int i = nextAt[step - 1];
             if (i >= instructionCount) {
@@ -197,16 +197,6 @@ public final class TraceDebugger {
                 return;
             }
         }
-    }
-
-    private void begin() {
-        now = 0;
-        stepCount = 0;
-        nextAt[0] = 0;
-        for (int place = 0; place < PLACES; place++) {
-            valueAt[place] = 0;
-        }
-        valueAt[INPUT_VARIABLE] = inputValue;
     }
 
     private void executeStep(int step, int i) {
