@@ -1,36 +1,65 @@
 /** Promise 11. */
 public final class BackToTest {
+    private static final Check check = new Check();
+
     public static void main(String[] args) {
-        Check check = new Check();
+        theLatestEarlierTime();
+        thisTimeIsNotEarlier();
+        theFirstTimeIsEarlier();
+        instructionsThatAreNotThere();
+        noneAndTheDebuggerStays();
+        outsideIsBad();
+        check.end();
+    }
+
+    /** "Goes back to the latest earlier time at which ... next is i ... Else answers the new time." */
+    private static void theLatestEarlierTime() {
         TraceDebugger d = Programs.countdownAt(10);
-        check.due("backTo(5), before the HALT", d.backTo(5), 9);
-        check.due("backTo(5), no more", d.backTo(5), TraceDebugger.NONE);
-        check.due("time() after none", d.time(), 9);
         check.due("backTo(1)", d.backTo(1), 5);
         check.due("time() after it", d.time(), 5);
         check.due("variable(1) after it", d.variable(1), 2);
+        check.due("cell(1) after it", d.cell(1), 0);
         check.due("backTo(1), the next earlier one", d.backTo(1), 1);
-        check.due("backTo(1), no more", d.backTo(1), TraceDebugger.NONE);
-        check.due("backTo(0), the first time", d.backTo(0), 0);
-        check.due("backTo(0), not this time", d.backTo(0), TraceDebugger.NONE);
+        check.due("time() after it", d.time(), 1);
+    }
 
-        TraceDebugger endless = Programs.endless();
-        endless.goTo(200);
-        check.due("backTo(0) of an endless program", endless.backTo(0), 199);
-        endless.goTo(1);
-        check.due("backTo(0) at time 1", endless.backTo(0), 0);
-        check.due("backTo(0) at time 0", endless.backTo(0), TraceDebugger.NONE);
+    private static void thisTimeIsNotEarlier() {
+        check.due("backTo(5), before the HALT", Programs.countdownAt(10).backTo(5), 9);
+        check.refused("backTo(5) at time 9", () -> Programs.countdownAt(9), d -> d.backTo(5), TraceDebugger.NONE);
+        check.due("backTo(0) where it is next always", Programs.at(200, Programs.endless()).backTo(0), 199);
+    }
 
-        TraceDebugger away = new TraceDebugger();
-        away.emit(TraceDebugger.GOTO, 19, 0, 0);
-        away.goTo(1);
-        check.due("backTo(19), only at this time", away.backTo(19), TraceDebugger.NONE);
+    private static void theFirstTimeIsEarlier() {
+        check.due("backTo(0) from time 10", Programs.countdownAt(10).backTo(0), 0);
+        check.due("backTo(0) from time 1", Programs.countdownAt(1).backTo(0), 0);
+        check.due("backTo(0) from time 200", Programs.at(200, Programs.after199Steps("HALT")).backTo(0), 0);
+    }
+
+    /** No time before the last has a next instruction that is not there, and this time is not earlier. */
+    private static void instructionsThatAreNotThere() {
+        check.refused("backTo(19) after GOTO 19", () -> Programs.at(1, Programs.of("GOTO 19")),
+            d -> d.backTo(19), TraceDebugger.NONE);
+    }
+
+    /** "there is none: NONE, and the debugger stays" */
+    private static void noneAndTheDebuggerStays() {
         for (int i : new int[] {5, 6, 19}) {
-            check.refused("backTo(" + i + ")", () -> Programs.countdownAt(7), x -> x.backTo(i), TraceDebugger.NONE);
+            check.refused("backTo(" + i + ")", () -> Programs.countdownAt(7), d -> d.backTo(i), TraceDebugger.NONE);
         }
-        for (int i : new int[] {-1, 20, Integer.MIN_VALUE, Integer.MAX_VALUE}) {
-            check.refused("backTo(" + i + ")", () -> Programs.countdownAt(7), x -> x.backTo(i), TraceDebugger.BAD);
+        for (int i = 0; i <= 19; i++) {
+            int number = i;
+            check.refused("backTo(" + i + ") at time 0", () -> Programs.countdown(2), d -> d.backTo(number),
+                TraceDebugger.NONE);
         }
-        check.end();
+        check.refused("backTo(1) at time 1", () -> Programs.countdownAt(1), d -> d.backTo(1), TraceDebugger.NONE);
+    }
+
+    /** "i outside 0..19: BAD" */
+    private static void outsideIsBad() {
+        for (int i : new int[] {-1, 20, 21, Programs.SMALLEST, Programs.LARGEST}) {
+            check.refused("backTo(" + i + ")", () -> Programs.countdownAt(7), d -> d.backTo(i), TraceDebugger.BAD);
+        }
+        check.refused("backTo(20), though 20 is next", () -> Programs.at(20, Programs.full()), d -> d.backTo(20),
+            TraceDebugger.BAD);
     }
 }

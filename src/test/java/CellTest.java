@@ -1,7 +1,16 @@
 /** Promise 8. */
 public final class CellTest {
+    private static final Check check = new Check();
+
     public static void main(String[] args) {
-        Check check = new Check();
+        everyTime();
+        theFirstAndTheLastCell();
+        outsideIsZero();
+        check.end();
+    }
+
+    /** "A cell's value in the state at this time" */
+    private static void everyTime() {
         TraceDebugger d = Programs.countdown(2);
         for (int t = 10; t >= 0; t--) {
             d.goTo(t);
@@ -11,25 +20,22 @@ public final class CellTest {
             check.due("cell(2)" + there, d.cell(2), t >= 2 ? 1 : 0);
             check.due("cell(3)" + there, d.cell(3), 0);
         }
+    }
 
-        TraceDebugger all = new TraceDebugger();
-        all.emit(TraceDebugger.SET, 0, 1, 0);
-        all.emit(TraceDebugger.SET, 1, 100, 0);
-        all.emit(TraceDebugger.ADD, 1, 1, 0);
-        all.emit(TraceDebugger.PUT, 1, 5, 0);
-        all.emit(TraceDebugger.SUB, 5, 5, 0);
-        all.emit(TraceDebugger.IFPOS, 5, 2, 0);
-        all.emit(TraceDebugger.PUT, 0, 5, 0);
-        int steps = all.input(7);
-        all.goTo(steps);
-        check.due("cell(0) of all", all.cell(0), 1);
-        for (int c = 1; c < 8; c++) {
-            check.due("cell(" + c + ") of all", all.cell(c), 108 - c);
+    private static void theFirstAndTheLastCell() {
+        check.due("cell(0)", Programs.filled().cell(0), 100);
+        for (int c = 1; c <= 7; c++) {
+            check.due("cell(" + c + ")", Programs.filled().cell(c), c);
         }
-        all.goTo(steps - 1);
-        for (int c : new int[] {-1, 8, 9, -6, -8, Integer.MIN_VALUE, Integer.MAX_VALUE}) {
-            check.due("cell(" + c + ")", all.cell(c), 0);
+    }
+
+    /** "0 for c outside 0..7": also where nothing around it is 0, and never by way of & 7. */
+    private static void outsideIsZero() {
+        for (int c : new int[] {-1, 8, 9, 13, 14, 15, -6, -7, -8, -14, Programs.SMALLEST, Programs.LARGEST}) {
+            for (int t = 30; t <= 36; t++) {
+                check.refused("cell(" + c + ") at time " + t, Programs.filledAt(t), d -> d.cell(c), 0);
+            }
+            check.due("cell(" + c + ") of a new object", new TraceDebugger().cell(c), 0);
         }
-        check.end();
     }
 }

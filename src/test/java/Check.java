@@ -14,26 +14,27 @@ final class Check {
 
     /** The call must answer as due and leave the object as if the call had not been. */
     void refused(String call, Supplier<TraceDebugger> maker, ToIntFunction<TraceDebugger> run, int want) {
-        TraceDebugger touched = maker.get();
-        TraceDebugger untouched = maker.get();
-        due(call, run.applyAsInt(touched), want);
-        same(call, touched, untouched);
-    }
-
-    /** For executions of at most 12 steps, or it would take more than the 512 calls of an object. */
-    private void same(String call, TraceDebugger touched, TraceDebugger untouched) {
         String after = "after " + call + ": ";
+        TraceDebugger untouched = maker.get();
+        TraceDebugger touched = maker.get();
+        due(call, run.applyAsInt(touched), want);
         due(after + "time()", touched.time(), untouched.time());
         due(after + "steps()", touched.steps(), untouched.steps());
         sameState(after, touched, untouched);
-        int steps = untouched.steps();
+        sameProgram(after, touched, untouched);
+        int steps = maker.get().steps();
         for (int t = 0; t <= steps; t++) {
-            String there = after + "goTo(" + t + ")";
-            due(there, touched.goTo(t), untouched.goTo(t));
-            sameState(there + ", ", touched, untouched);
+            // New objects for each time, or it would take more than the 512 calls of one.
+            touched = maker.get();
+            run.applyAsInt(touched);
+            sameAt(t, after, touched, maker.get());
         }
-        due(after + "emit(HALT)", emitHalt(touched), emitHalt(untouched));
-        due(after + "emit(HALT), steps()", touched.steps(), untouched.steps());
+    }
+
+    private void sameAt(int t, String after, TraceDebugger touched, TraceDebugger untouched) {
+        String there = after + "goTo(" + t + ")";
+        due(there, touched.goTo(t), untouched.goTo(t));
+        sameState(there + ", ", touched, untouched);
     }
 
     private void sameState(String where, TraceDebugger touched, TraceDebugger untouched) {
@@ -47,8 +48,11 @@ final class Check {
         }
     }
 
-    private static int emitHalt(TraceDebugger d) {
-        return d.emit(TraceDebugger.HALT, 0, 0, 0);
+    /** How many instructions there are, and what the input is, shows when the program is executed anew. */
+    private void sameProgram(String after, TraceDebugger touched, TraceDebugger untouched) {
+        due(after + "emit(HALT)", Programs.emit(touched, "HALT"), Programs.emit(untouched, "HALT"));
+        due(after + "emit(HALT), steps()", touched.steps(), untouched.steps());
+        sameState(after + "emit(HALT), ", touched, untouched);
     }
 
     void end() {

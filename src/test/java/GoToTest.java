@@ -4,11 +4,15 @@ public final class GoToTest {
 
     public static void main(String[] args) {
         everyTime();
-        timesOutside();
-        nextAfterTheEnd();
+        theFirstAndTheLastTime();
+        outsideIsBad();
+        outsideWithoutAProgram();
+        outsideOfTheLongestExecution();
+        timesOfAnEarlierExecution();
         check.end();
     }
 
+    /** "Goes to time t ... answers the number of the instruction that is next then." */
     private static void everyTime() {
         int[] next = {0, 1, 2, 3, 4, 1, 2, 3, 4, 5, 5};
         TraceDebugger d = Programs.countdown(2);
@@ -22,35 +26,40 @@ public final class GoToTest {
         }
     }
 
-    private static void timesOutside() {
-        for (int t : new int[] {-1, 11, 200, 201, Integer.MIN_VALUE, Integer.MAX_VALUE}) {
-            check.refused("goTo(" + t + ")", () -> Programs.countdownAt(7), d -> d.goTo(t), TraceDebugger.BAD);
+    private static void theFirstAndTheLastTime() {
+        TraceDebugger d = Programs.after199Steps("SET 1 1");
+        check.due("goTo(200), the last time there can be", d.goTo(200), 4);
+        check.due("time() then", d.time(), 200);
+        check.due("goTo(0)", d.goTo(0), 0);
+        check.due("time() then", d.time(), 0);
+    }
+
+    /** "t outside 0..T: BAD, and the debugger stays." */
+    private static void outsideIsBad() {
+        for (int t : new int[] {-1, 11, 12, 200, 201, Programs.SMALLEST, Programs.LARGEST}) {
+            for (int from : new int[] {0, 7, 10}) {
+                check.refused("goTo(" + t + ")", () -> Programs.countdownAt(from), d -> d.goTo(t),
+                    TraceDebugger.BAD);
+            }
         }
+    }
+
+    private static void outsideWithoutAProgram() {
+        check.refused("goTo(1)", TraceDebugger::new, d -> d.goTo(1), TraceDebugger.BAD);
+        check.refused("goTo(-1)", TraceDebugger::new, d -> d.goTo(-1), TraceDebugger.BAD);
+    }
+
+    private static void outsideOfTheLongestExecution() {
+        check.refused("goTo(201)", () -> Programs.at(200, Programs.endless()), d -> d.goTo(201),
+            TraceDebugger.BAD);
+    }
+
+    private static void timesOfAnEarlierExecution() {
         TraceDebugger d = Programs.countdown(5);
         d.goTo(22);
         d.input(2);
-        check.due("goTo(11), a time of an earlier execution", d.goTo(11), TraceDebugger.BAD);
-        TraceDebugger endless = Programs.endless();
-        check.due("goTo(200) of an endless program", endless.goTo(200), 0);
-        check.due("goTo(201) of an endless program", endless.goTo(201), TraceDebugger.BAD);
-        check.due("time() after it", endless.time(), 200);
-    }
-
-    private static void nextAfterTheEnd() {
-        TraceDebugger away = new TraceDebugger();
-        away.emit(TraceDebugger.GOTO, 19, 0, 0);
-        check.due("goTo(1) after GOTO 19", away.goTo(1), 19);
-
-        TraceDebugger end = new TraceDebugger();
-        for (int i = 0; i < 20; i++) {
-            end.emit(TraceDebugger.SET, 0, i, 0);
-        }
-        check.due("goTo(20) after 20 instructions", end.goTo(20), 20);
-
-        TraceDebugger halt = new TraceDebugger();
-        halt.emit(TraceDebugger.SET, 0, 1, 0);
-        halt.emit(TraceDebugger.HALT, 0, 0, 0);
-        halt.emit(TraceDebugger.SET, 0, 2, 0);
-        check.due("goTo(2) after HALT", halt.goTo(2), 1);
+        check.due("goTo(11) of 10 after 22 steps", d.goTo(11), TraceDebugger.BAD);
+        check.due("goTo(22) of 10 after 22 steps", d.goTo(22), TraceDebugger.BAD);
+        check.due("time() after them", d.time(), 0);
     }
 }

@@ -1,7 +1,16 @@
 /** Promise 7. */
 public final class VariableTest {
+    private static final Check check = new Check();
+
     public static void main(String[] args) {
-        Check check = new Check();
+        everyTime();
+        theFirstAndTheLastVariable();
+        outsideIsZero();
+        check.end();
+    }
+
+    /** "A variable's value in the state at this time" */
+    private static void everyTime() {
         int[] sum = {0, 0, 0, 2, 2, 2, 2, 3, 3, 3, 3};
         int[] count = {2, 2, 2, 2, 1, 1, 1, 1, 0, 0, 0};
         TraceDebugger d = Programs.countdown(2);
@@ -13,24 +22,21 @@ public final class VariableTest {
             check.due("variable(2)" + there, d.variable(2), 0);
             check.due("variable(5)" + there, d.variable(5), count[t]);
         }
+    }
 
-        TraceDebugger all = new TraceDebugger();
-        for (int v = 0; v < 6; v++) {
-            all.emit(TraceDebugger.SET, v, 10 + v, 0);
+    private static void theFirstAndTheLastVariable() {
+        for (int v = 0; v <= 5; v++) {
+            check.due("variable(" + v + ")", Programs.filled().variable(v), 20 + v);
         }
-        all.emit(TraceDebugger.SET, 0, 0, 0);
-        for (int i = 0; i < 8; i++) {
-            all.emit(TraceDebugger.PUT, 5, 0, 0);
+    }
+
+    /** "0 for v outside 0..5": also where nothing around it is 0. */
+    private static void outsideIsZero() {
+        for (int v : new int[] {-1, 6, 7, 13, 14, -6, -8, -14, Programs.SMALLEST, Programs.LARGEST}) {
+            for (int t = 30; t <= 36; t++) {
+                check.refused("variable(" + v + ") at time " + t, Programs.filledAt(t), d -> d.variable(v), 0);
+            }
+            check.due("variable(" + v + ") of a new object", new TraceDebugger().variable(v), 0);
         }
-        all.goTo(15);
-        for (int v = 1; v < 6; v++) {
-            check.due("variable(" + v + ") of all", all.variable(v), 10 + v);
-        }
-        for (int v : new int[] {-1, 6, 7, -6, 14, Integer.MIN_VALUE, Integer.MAX_VALUE}) {
-            check.due("variable(" + v + ")", all.variable(v), 0);
-        }
-        all.goTo(14);
-        check.due("variable(-14)", all.variable(-14), 0);
-        check.end();
     }
 }
