@@ -34,6 +34,7 @@ final class LanguageRules extends TreeScanner<Void, Void> {
     private final SourcePositions positions;
     private final List<String> breaches = new ArrayList<>();
     private final Map<String, Set<String>> callsOf = new TreeMap<>();
+    private final Set<String> constants = new HashSet<>();
     private final Set<String> arrayFields = new HashSet<>();
     private final Set<Tree> arraysOfFields = new HashSet<>();
     private Set<String> callsHere = new TreeSet<>();
@@ -111,7 +112,9 @@ final class LanguageRules extends TreeScanner<Void, Void> {
     private void checkField(VariableTree field) {
         Set<Modifier> modifiers = field.getModifiers().getFlags();
         boolean isArray = field.getType() instanceof ArrayTypeTree;
-        if (modifiers.contains(Modifier.STATIC) && (isArray || !isConstant(field))) {
+        if (modifiers.contains(Modifier.STATIC) && !isArray && isConstant(field)) {
+            constants.add(field.getName().toString());
+        } else if (modifiers.contains(Modifier.STATIC)) {
             breach(5, field, "a static field that is no constant");
         }
         if (isArray) {
@@ -200,20 +203,14 @@ final class LanguageRules extends TreeScanner<Void, Void> {
             breach(4, tree, "an array made elsewhere than in a field's initialiser");
         }
         if (tree.getInitializers() != null || tree.getDimensions().size() != 1
-            || !isNamedOrLiteral(tree.getDimensions().get(0))) {
-            breach(4, tree, "an array's length is neither a literal nor a constant");
+            || !isLength(tree.getDimensions().get(0))) {
+            breach(4, tree, "an array's length is neither a literal, 1 or more, nor a constant");
         }
         return super.visitNewArray(tree, null);
     }
 
-    private static boolean isNamedOrLiteral(Tree tree) {
-        return tree instanceof LiteralTree || tree instanceof IdentifierTree;
-    }
-
-    @Override
-    public Void visitNewClass(NewClassTree tree, Void unused) {
-        breach(4, tree, "an object is made");
-        return null;
+    private boolean isLength(Tree tree) {
+        return tree instanceof LiteralTree ? !tree.toString().equals("0") : constants.contains(tree.toString());
     }
 
     @Override
@@ -232,77 +229,39 @@ final class LanguageRules extends TreeScanner<Void, Void> {
         return null;
     }
 
-    /** The class names its own members plainly, so a dot can only lead out of it. */
-    @Override
-    public Void visitMemberSelect(MemberSelectTree tree, Void unused) {
-        breach(3, tree, "another class");
-        return null;
-    }
+    // Statements and expressions that are ruled out
 
     @Override
-    public Void visitBinary(BinaryTree tree, Void unused) {
-        checkOperator(tree);
-        return super.visitBinary(tree, null);
+    public Void scan(Tree tree, Void unused) {
+        if (tree != null) {
+            checkKind(tree);
+        }
+        return super.scan(tree, null);
     }
 
-    @Override
-    public Void visitCompoundAssignment(CompoundAssignmentTree tree, Void unused) {
-        checkOperator(tree);
-        return super.visitCompoundAssignment(tree, null);
-    }
-
-    private void checkOperator(Tree tree) {
+    private void checkKind(Tree tree) {
+        String kind = tree.getKind().toString();
         switch (tree.getKind()) {
+            case MEMBER_SELECT:
+                // The class names its own members plainly, so a dot can only lead out of it.
+                breach(3, tree, kind);
+                break;
+            case NEW_CLASS:
+                breach(4, tree, kind);
+                break;
+            case THROW: case TRY: case SYNCHRONIZED: case ASSERT: case INSTANCE_OF: case LAMBDA_EXPRESSION:
+            case MEMBER_REFERENCE:
+                breach(6, tree, kind);
+                break;
             case DIVIDE: case REMAINDER: case DIVIDE_ASSIGNMENT: case REMAINDER_ASSIGNMENT:
-                breach(7, tree, "a division");
+                breach(7, tree, kind);
+                break;
+            case WHILE_LOOP: case DO_WHILE_LOOP: case ENHANCED_FOR_LOOP:
+                breach(8, tree, kind);
                 break;
             default:
                 break;
         }
-    }
-
-    // Statements and expressions that are ruled out
-
-    @Override
-    public Void visitThrow(ThrowTree tree, Void unused) {
-        breach(6, tree, "throw");
-        return null;
-    }
-
-    @Override
-    public Void visitTry(TryTree tree, Void unused) {
-        breach(6, tree, "try");
-        return null;
-    }
-
-    @Override
-    public Void visitSynchronized(SynchronizedTree tree, Void unused) {
-        breach(6, tree, "synchronized");
-        return null;
-    }
-
-    @Override
-    public Void visitAssert(AssertTree tree, Void unused) {
-        breach(6, tree, "assert");
-        return null;
-    }
-
-    @Override
-    public Void visitInstanceOf(InstanceOfTree tree, Void unused) {
-        breach(6, tree, "instanceof");
-        return null;
-    }
-
-    @Override
-    public Void visitLambdaExpression(LambdaExpressionTree tree, Void unused) {
-        breach(6, tree, "a lambda");
-        return null;
-    }
-
-    @Override
-    public Void visitMemberReference(MemberReferenceTree tree, Void unused) {
-        breach(6, tree, "a method reference");
-        return null;
     }
 
     @Override
@@ -314,24 +273,6 @@ final class LanguageRules extends TreeScanner<Void, Void> {
     }
 
     // Loops
-
-    @Override
-    public Void visitWhileLoop(WhileLoopTree tree, Void unused) {
-        breach(8, tree, "a loop that does not count");
-        return null;
-    }
-
-    @Override
-    public Void visitDoWhileLoop(DoWhileLoopTree tree, Void unused) {
-        breach(8, tree, "a loop that does not count");
-        return null;
-    }
-
-    @Override
-    public Void visitEnhancedForLoop(EnhancedForLoopTree tree, Void unused) {
-        breach(8, tree, "a loop that does not count");
-        return null;
-    }
 
     @Override
     public Void visitForLoop(ForLoopTree tree, Void unused) {
@@ -357,6 +298,10 @@ final class LanguageRules extends TreeScanner<Void, Void> {
 
     private static Tree withoutParentheses(Tree tree) {
         return tree instanceof ParenthesizedTree ? ((ParenthesizedTree) tree).getExpression() : tree;
+    }
+
+    private static boolean isNamedOrLiteral(Tree tree) {
+        return tree instanceof LiteralTree || tree instanceof IdentifierTree;
     }
 
     private static boolean isStep(Tree.Kind comparison, ExpressionStatementTree update, String counter) {

@@ -58,6 +58,8 @@ public final class LanguageTest {
         foundWith(4, "private final int[] f = {1, 2};");
         foundWith(4, "private final int[] f = new int[] {1, 2};");
         foundWith(4, "private final int[] f = new int[TIMES + 1];");
+        foundWith(4, "private final int[] f = new int[now];");
+        foundWith(4, "private final int[] f = new int[0];");
         foundWith(4, "private int[] f = new int[TIMES];");
         foundWith(4, "private int[] f() { return nextAt; }");
         foundWith(4, "private int f() { int[] copy = nextAt; return copy[0]; }");
